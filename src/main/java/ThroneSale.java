@@ -670,8 +670,10 @@ public final class ThroneSale {
             for (int i = 0; i < count[ROAD]; i++) {
                 int a = told[FROM][i];
                 int b = told[TO][i];
-                ways[a][b] = Math.min(ways[a][b], told[DAYS][i]);
-                ways[b][a] = ways[a][b];
+                if (isCity(a) && isCity(b)) {
+                    ways[a][b] = Math.min(ways[a][b], told[DAYS][i]);
+                    ways[b][a] = ways[a][b];
+                }
             }
             for (int over = 0; over < CITIES; over++) {
                 for (int a = 0; a < CITIES; a++) {
@@ -692,7 +694,7 @@ public final class ThroneSale {
             int best = NONE;
             for (int i = 0; i < count[ROAD]; i++) {
                 int other = otherEnd(i, from);
-                if (other != NONE && told[DAYS][i] + ways[other][to] == ways[from][to]
+                if (isCity(other) && told[DAYS][i] + ways[other][to] == ways[from][to]
                         && (best == NONE || other < best)) {
                     best = other;
                 }
@@ -709,8 +711,8 @@ public final class ThroneSale {
 
         /** DAYS until a GENERAL is there after a SALE, the news' way and their own; NONE: never. */
         int marchDays(int general) {
-            int days = ways[0][told[CITY][general]];
-            return days < NO_WAY ? 2 * days : NONE;
+            int city = told[CITY][general];
+            return isCity(city) && ways[0][city] < NO_WAY ? 2 * ways[0][city] : NONE;
         }
     }
 
@@ -1047,7 +1049,7 @@ public final class ThroneSale {
                         top++;
                     }
                 } else if (step == Rule.BID || step == Rule.BID_IF) {
-                    if (step == Rule.BID || stack[1] != 0) {
+                    if (step == Rule.BID || top >= 2 && stack[1] != 0) {
                         return stack[0];
                     }
                     top = 0;
@@ -1567,13 +1569,13 @@ public final class ThroneSale {
         }
 
         private void insert(int general) {
-            int at = size;
+            int at = Math.min(size, order.length - 1);
             while (at > 0 && days[order[at - 1]] > days[general]) {
                 order[at] = order[at - 1];
                 at--;
             }
             order[at] = general;
-            size++;
+            size = Math.min(size + 1, order.length);
         }
 
         void countRests() {
@@ -1669,7 +1671,8 @@ public final class ThroneSale {
 
         private static boolean fits(Realm realm, int[] row) {
             for (int i = 0; i < realm.logCount; i++) {
-                if (row[realm.logDay[i]] != realm.logRuler[i]) {
+                int day = realm.logDay[i];
+                if (day < 0 || day >= row.length || row[day] != realm.logRuler[i]) {
                     return false;
                 }
             }

@@ -254,6 +254,18 @@ public final class PromiseTest {
         bids("bid 5 if not not 1=2 or [1=2 or 2=2] and 1=1;bid 6", 5);
         bids("bid5if1<2and2>1;bid6", 5);
         bids("bid 8;bid 9", 8);
+        String[] signs = {"<", "<=", "=", ">=", ">"};
+        int[][] want = {{1, 0, 0}, {1, 1, 0}, {0, 1, 0}, {0, 1, 1}, {0, 0, 1}};
+        for (int i = 0; i < signs.length; i++) {
+            for (int a = 1; a <= 3; a++) {
+                String fact = a + signs[i] + "2";
+                bids("bid 7 if " + fact + ";bid 8", want[i][a - 1] == 1 ? 7 : 8);
+                bids("bid 7 if not " + fact + ";bid 8", want[i][a - 1] == 1 ? 8 : 7);
+                bids("bid 7 if " + fact + " and 0=0;bid 8", want[i][a - 1] == 1 ? 7 : 8);
+                bids("bid 7 if 0<1 and " + fact + " and 1>0;bid 8", want[i][a - 1] == 1 ? 7 : 8);
+                bids("bid 7 if 0=1 or " + fact + ";bid 8", want[i][a - 1] == 1 ? 7 : 8);
+            }
+        }
     }
 
     private static void forces() {
@@ -581,6 +593,11 @@ public final class PromiseTest {
         due("who", w.sale(0), 1);
         due("how much", w.sale(1), 31);
         due("bids", w.sale(2), 8);
+        ThroneSale u = told("empire 0 1;guard 2 0 0;bidder 0 0;bidder 0 0");
+        tellRule(u, "bid 0 if bidder=0;bid day+10*out+100*men");
+        u.force(0);
+        days(u, 3);
+        due("as it is on the day", u.sale(1), 213);
         ThroneSale v = told("empire 0 9;bidder 0 0;bidder 0 0");
         tellRule(v, "bid high+jump");
         v.force(0);
@@ -652,6 +669,11 @@ public final class PromiseTest {
         ThroneSale y = told("empire 0 7;bidder 9 2;bidder 9 99");
         due("can't win", y.reign(0, 1), 0);
         due("least of all", y.reign(0, 0), 0);
+        ThroneSale w = told("empire 30 1;guard 10 100 3;bidder 0 0;bidder 0 2;general 1 5 0;road 0 1 10");
+        due("3 are as good as any more", w.reign(0, 0), 3);
+        ThroneSale v = told("empire 9 1;bidder 0 0;bidder 0 9;bidder 0 0");
+        due("of other prices the least, too", v.reign(0, 0), 9);
+        due("as they move on", v.reign(2, 0), 10);
         due("alone", y.reign(1, 0), 7);
         due("for good", y.reign(1, 1), 200);
         // For 5 coins a head 50 are wanted by DAY 4, or a general finds nobody there on DAY 20.
@@ -753,6 +775,14 @@ public final class PromiseTest {
         // 1 holds with 2, 2 with 1 of these; 0, the last, has more than any: 0 alone, and nobody else.
         due("how many", w.rests(0), 1);
         due("the last one", w.rests(1), 1);
+        ThroneSale u = told("empire 0 1;guard 5 0 0;general 0 5 0");
+        due("with as many he doesn't hold it", u.rests(1), 0);
+        ThroneSale t = told("empire 0 1;guard 1 0 0;general 0 5 0");
+        due("all march", t.rests(1), 1);
+        due("that alone", t.rests(0), 1);
+        ThroneSale q = told("empire 0 1;guard 9 0 0;general 1 5 0;general 0 5 0;general 2 1 0;road 0 1 1");
+        due("who has no way doesn't count", q.rests(0), 1);
+        due("with 5 less the other would have it, but the 5 would not", q.rests(1), 0);
         ThroneSale v = told("empire 0 1;guard 5 0 0;general 0 7 0;general 0 6 0;general 0 4 0");
         due("none can rest", v.rests(0), 0);
         due("so there is no least", v.rests(1), -2);
@@ -760,6 +790,7 @@ public final class PromiseTest {
 
     private static void holdOut() {
         ThroneSale x = sold(ROME);
+        due("one day", x.holds(1), 0);
         due("four days", x.holds(4), 0);
         due("five", x.holds(5), -2);
         due("none", x.holds(0), NONE);
@@ -788,6 +819,9 @@ public final class PromiseTest {
         due("no bands", told("empire 0 1").halves(0), 0);
         due("no bands", told("empire 0 1").halves(1), 0);
         due("one band", told("empire 0 1;guard 3 0 0").halves(0), 3);
+        ThroneSale z = told("empire 0 1;guard 2 0 0;guard 3 0 0;guard 3 0 0");
+        due("2", z.halves(0), 2);
+        due("least of several", z.halves(1), 3);
         ThroneSale y = sold("empire 0 1;guard 9 100 0;guard 2 0 0;guard 4 0 0;guard 3 0 0;bidder 0 9");
         due("9 of 18", y.halves(1), 1);
         days(y, 2);
@@ -797,6 +831,9 @@ public final class PromiseTest {
 
     private static void thinnestCoin() {
         ThroneSale x = sold(ROME);
+        due("one day", x.thinnest(1), 9);
+        due("60 days", told("empire 0 1").thinnest(60), NONE);
+        due("60 days", sold("empire 0 1;bidder 1 1").thinnest(60), 9);
         due("nine times", x.thinnest(4), 9);
         due("not even none", x.thinnest(5), -2);
         due("below", x.thinnest(0), NONE);
@@ -904,6 +941,8 @@ public final class PromiseTest {
         due("was", x.seed(5), 2147483647);
         due("below", x.seed(-1), NONE);
         due("stays", x.count(16), 5);
+        due("least", x.seed(0), 5);
+        due("is 0", x.count(16), 0);
     }
 
     private static void drawn() {
