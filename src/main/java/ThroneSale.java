@@ -623,7 +623,6 @@ public final class ThroneSale {
 
         static final int CITIES = 8;
         static final int MOST_ROWS = 8;
-        static final int MOST_BANDS = 6;
         static final int MOST_BIDDERS = 4;
         static final int MOST_GENERALS = 4;
         /** More than the longest way could have (7 ROADS of 30 DAYS). */
