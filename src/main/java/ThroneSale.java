@@ -499,7 +499,7 @@ public final class ThroneSale {
                 } else if (bytes[from] != ' ') {
                     put(bytes[from], 0, from);
                 }
-                from = to;
+                from = Math.max(to, from + 1);
             }
             put(END, 0, length);
             at = -1;

@@ -54,10 +54,30 @@ public final class LanguageTest {
         }
     }
 
+    /** Each while loop counts the name that its head compares first, so that its end is seen from its own lines. */
+    private static void lookAtLoops(String source) {
+        Matcher m = Pattern.compile("(?m)^( +)while \\((\\w+)\\b.*\\{$").matcher(source);
+        int heads = 0;
+        while (m.find()) {
+            heads++;
+            String body = source.substring(m.end(), source.indexOf("\n" + m.group(1) + "}\n", m.end()));
+            String name = m.group(2);
+            String step = name + "(\\+\\+|--);|" + name + " = Math\\.max\\(\\w+, " + name + " \\+ 1\\);";
+            if (!Pattern.compile("\\b(" + step + ")").matcher(body).find()) {
+                fault("no step of " + name + " is seen in the loop " + m.group().trim());
+            }
+        }
+        int all = source.split("\\bwhile\\b").length - 1;
+        if (heads != all) {
+            fault(all + " loops by while, of which " + heads + " start with a name");
+        }
+    }
+
     public static void main(String[] args) throws Exception {
         String source = Files.readString(Path.of(args.length > 0 ? args[0] : "src/main/java", "ThroneSale.java"));
         lookForWords(withoutComments(source));
         measureMethods(withoutComments(source));
+        lookAtLoops(withoutComments(source));
         System.out.println(wrong == 0 ? "the language is kept" : wrong + " faults");
         if (wrong != 0) {
             System.exit(1);
